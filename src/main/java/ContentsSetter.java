@@ -426,6 +426,7 @@ public final class ContentsSetter {
     // ---- proofs ----
 
     public int proof() {
+        trialLayout.layAnew(now.proofed);
         int unread = Integer.bitCount(sectionsToRead());
         keepForUndo();
         now.keepProof();
@@ -433,6 +434,7 @@ public final class ContentsSetter {
     }
 
     public int toRead() {
+        trialLayout.layAnew(now.proofed);
         return sectionsToRead();
     }
 
@@ -644,20 +646,15 @@ public final class ContentsSetter {
         trialLayout.measures.measure(trial);
     }
 
+    /** A proof keeps the book and not its texts: laid again it gives the same texts. */
     private int sectionsToRead() {
-        int all = (1 << now.book.sections) - 1;
-        if (!now.proofMade) {
-            return all;
-        }
-        // A proof keeps the book and not its texts: laid again it gives the same texts.
-        trialLayout.layAnew(now.proofed);
         int set = 0;
         for (int i = 0; i < now.book.sections; i++) {
             int origin = now.book.origins.at(i);
             layout.typeLines(typed, now.book, layout.table.firstLines.at(i), layout.table.lineBehind(i));
             trialLayout.typeLines(typedBefore, now.proofed,
                     trialLayout.table.firstLines.at(origin), trialLayout.table.lineBehind(origin));
-            if (origin == NONE || !typed.isLike(typedBefore)) {
+            if (!now.proofMade || origin == NONE || !typed.isLike(typedBefore)) {
                 set |= 1 << i;
             }
         }
@@ -762,7 +759,9 @@ public final class ContentsSetter {
         }
 
         void add(int index, int value) {
-            put(index, at(index) + value);
+            if (index >= 0 && index < cells.length) {
+                cells[index] += value;
+            }
         }
 
         void take(Row other) {
@@ -907,11 +906,6 @@ public final class ContentsSetter {
             }
         }
 
-        boolean isLetter(int index) {
-            int sign = at(index);
-            return sign >= 'a' && sign <= 'z';
-        }
-
         /** The bytes between these places as a word; NO_WORD if they are not one of 1 to 12 letters. */
         long wordBetween(int from, int to) {
             if (to - from > MOST_LETTERS) {
@@ -919,10 +913,10 @@ public final class ContentsSetter {
             }
             long word = WordRow.NO_WORD;
             for (int i = from; i < to; i++) {
-                if (!isLetter(i)) {
+                long letter = at(i) - 'a' + 1;
+                if (letter < 1 || letter > 26) {
                     return WordRow.NO_WORD;
                 }
-                long letter = at(i) - 'a' + 1;
                 word |= letter << (WordRow.FIRST_SHIFT - WordRow.LETTER_BITS * (i - from));
             }
             return word;
@@ -1579,31 +1573,24 @@ public final class ContentsSetter {
 
         /** Lays a book that has been measured. */
         void lay(Book book) {
+            // A book without sections settles at once, with no pages of the table and no round.
             roundsLaid = 0;
-            if (book.sections == 0) {
-                layWith(book, 0);
-                return;
-            }
-            int taken = 1;
+            tablePages = Math.min(book.sections, 1);
             int greatest = 0;
-            for (int i = 1; i <= MOST_ROUNDS; i++) {
-                roundsLaid = i;
-                int found = layWith(book, taken);
-                if (found == taken) {
+            for (int i = 0; i < MOST_ROUNDS; i++) {
+                pages.lay(book, tablePages);
+                table.lay(book, measures, pages);
+                roundsLaid += Math.min(book.sections, 1);
+                int found = quotientUp(table.lines, book.settings.at(TABLE_LINES));
+                if (found == tablePages) {
                     return;
                 }
                 greatest = Math.max(greatest, found);
-                taken = found;
+                tablePages = found;
             }
-            layWith(book, greatest);
-        }
-
-        /** Answers how many pages the lines of the table need. */
-        private int layWith(Book book, int pagesOfTable) {
-            tablePages = pagesOfTable;
-            pages.lay(book, pagesOfTable);
+            tablePages = greatest;
+            pages.lay(book, tablePages);
             table.lay(book, measures, pages);
-            return quotientUp(table.lines, book.settings.at(TABLE_LINES));
         }
 
         /** True if a line and the next one collide. */
@@ -1659,12 +1646,18 @@ public final class ContentsSetter {
                 }
                 if (i == 0 && book.partOf(section) == MAIN) {
                     typeLabel(out, book, section);
-                    out.put(' ');
                 }
                 out.putWord(book.titles.at(section * MOST_WORDS + i));
             }
             if (table.isLastLine(line)) {
-                typeNumber(out, book, section);
+                out.put(' ');
+                out.putTimes('.', table.dotCounts.at(section));
+                out.put(' ');
+                if (book.partOf(section) == FRONT) {
+                    out.putRoman(pages.numbers.at(section));
+                } else {
+                    out.putArabic(pages.numbers.at(section));
+                }
             }
             out.put('\n');
         }
@@ -1676,17 +1669,7 @@ public final class ContentsSetter {
                 }
                 out.putArabic(measures.ordinalAt(book, section, i));
             }
-        }
-
-        private void typeNumber(Text out, Book book, int section) {
             out.put(' ');
-            out.putTimes('.', table.dotCounts.at(section));
-            out.put(' ');
-            if (book.partOf(section) == FRONT) {
-                out.putRoman(pages.numbers.at(section));
-            } else {
-                out.putArabic(pages.numbers.at(section));
-            }
         }
     }
 
