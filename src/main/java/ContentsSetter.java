@@ -1092,7 +1092,6 @@ public final class ContentsSetter {
         private int begin = 0;
         private int end = 0;
         private int value = 0;
-        private int read = 0;
         private boolean styleSeen = false;
         private boolean rightSeen = false;
         private boolean mainSeen = false;
@@ -1171,14 +1170,6 @@ public final class ContentsSetter {
             return true;
         }
 
-        private boolean keyword(String word) {
-            if (!isAt(word)) {
-                return fail(CANNOT_STAND);
-            }
-            advance();
-            return true;
-        }
-
         private boolean semicolon() {
             if (kind != SYMBOL || text.at(begin) != ';') {
                 return fail(CANNOT_STAND);
@@ -1187,33 +1178,32 @@ public final class ContentsSetter {
             return true;
         }
 
-        /** Keeps the number, because the next token may be a number as well. */
-        private boolean number(int least, int most) {
+        /** Reads a word and the number behind it, which it puts into a row. */
+        private boolean number(String word, int least, int most, Row into, int index) {
+            if (!isAt(word)) {
+                return fail(CANNOT_STAND);
+            }
+            advance();
             if (kind != NUMBER) {
                 return fail(CANNOT_STAND);
             }
             if (value < least || value > most) {
                 return fail(OUT_OF_RANGE);
             }
-            read = value;
+            into.put(index, value);
             advance();
             return true;
         }
 
         private boolean bookStatement(Book book) {
-            return keyword("book")
-                    && settingOf(book, "width", WIDTH, LEAST_WIDTH, MOST_WIDTH)
-                    && settingOf(book, "lines", TABLE_LINES, 2, 60)
-                    && settingOf(book, "page", TEXT_LINES, 5, 99)
-                    && semicolon();
-        }
-
-        private boolean settingOf(Book book, String word, int which, int least, int most) {
-            if (!keyword(word) || !number(least, most)) {
-                return false;
+            if (!isAt("book")) {
+                return fail(CANNOT_STAND);
             }
-            book.settings.put(which, read);
-            return true;
+            advance();
+            return number("width", LEAST_WIDTH, MOST_WIDTH, book.settings, WIDTH)
+                    && number("lines", 2, 60, book.settings, TABLE_LINES)
+                    && number("page", 5, 99, book.settings, TEXT_LINES)
+                    && semicolon();
         }
 
         private boolean statement(Book book) {
@@ -1238,11 +1228,11 @@ public final class ContentsSetter {
             }
             styleSeen = true;
             advance();
-            return settingOf(book, "indent", INDENT, 0, 9)
-                    && settingOf(book, "hang", HANG, 0, 9)
-                    && settingOf(book, "gap", GAP, 0, 9)
-                    && settingOf(book, "dots", DOTS, 0, 9)
-                    && settingOf(book, "grid", GRID, 1, MOST_GRID)
+            return number("indent", 0, 9, book.settings, INDENT)
+                    && number("hang", 0, 9, book.settings, HANG)
+                    && number("gap", 0, 9, book.settings, GAP)
+                    && number("dots", 0, 9, book.settings, DOTS)
+                    && number("grid", 1, MOST_GRID, book.settings, GRID)
                     && semicolon();
         }
 
@@ -1269,19 +1259,15 @@ public final class ContentsSetter {
             if (book.sections >= MOST_SECTIONS) {
                 return fail(TOO_MANY);
             }
-            advance();
             int section = book.sections;
             int part = mainSeen ? MAIN : FRONT;
-            if (!number(1, book.greatestLevel(part, section))) {
-                return false;
-            }
-            int level = read;
-            if (!keyword("lines") || !number(0, MOST_LENGTH) || !titleOf()) {
+            boolean stands = number("section", 1, book.greatestLevel(part, section), book.levels, section)
+                    && number("lines", 0, MOST_LENGTH, book.lengths, section)
+                    && titleOf();
+            if (!stands) {
                 return false;
             }
             book.open(section, part);
-            book.levels.put(section, level);
-            book.lengths.put(section, read);
             book.entitle(section, title, titleWords);
             return semicolon();
         }
