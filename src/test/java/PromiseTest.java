@@ -102,6 +102,9 @@ public final class PromiseTest {
         check.due("right is that of the text", false, x.isRight());
         check.due("load of the same text", 5, Driver.load(x, BASE));
         check.due("load has no proof", 31, x.toRead());
+        x.proof();
+        check.due("load of the same text again", 5, Driver.load(x, BASE));
+        check.due("load has no proof: lines", 5, x.changedLines());
         Driver.load(x, "book width 50 lines 9 page 30 ; style indent 1 hang 4 gap 0 dots 9 grid 9;right;");
         int[] settings = {50, 9, 30, 1, 4, 0, 9, 9};
         for (int i = 0; i < settings.length; i++) {
@@ -145,6 +148,7 @@ public final class PromiseTest {
         error("", 1, 0);
         error(" \n ", 1, 3);
         error("style indent 2", 1, 0);
+        error("took width 20 lines 2 page 9;", 1, 0);
         error("book width 19 lines 10 page 20;", 2, 11);
         error("book width 121 lines 10 page 20;", 2, 11);
         error("book width 20 lines 1 page 20;", 2, 20);
@@ -199,6 +203,8 @@ public final class PromiseTest {
         y.setRight(true);
         check.due("main part on a right page", 3, y.count(5));
         check.due("pages with an empty one", 3, y.count(4));
+        ContentsSetter right = Driver.loaded(START + "right;section 1 lines 0 a;main;");
+        check.due("no empty page behind the last part", 3, right.count(4));
         check.due("main part without sections", 0,
                 Driver.loaded(START + "section 1 lines 0 a;main;").count(5));
         ContentsSetter z = Driver.loaded("book width 20 lines 2 page 5;style indent 0 hang 0 gap 9 dots 0 grid 1;"
@@ -388,6 +394,11 @@ public final class PromiseTest {
         check.dueThrow("firstDot(5)", INDEX, () -> x.firstDot(5));
         check.dueThrow("dotCount(-1)", INDEX, () -> x.dotCount(-1));
         check.dueThrow("firstDot(-1)", INDEX, () -> x.firstDot(-1));
+        ContentsSetter one = Driver.loaded("book width 20 lines 2 page 5;style indent 2 hang 3 gap 1 dots 1 grid 4;"
+                + "section 1 lines 0 preface;");
+        // x at least 13 and at most 20 - 2 - 1 - 1.
+        check.due("the only unit for a dot", 1, one.dotCount(0));
+        check.due("the only dot", 16, one.firstDot(0));
         int[] at = new int[20];
         at[9] = 1;
         at[12] = 2;
@@ -419,6 +430,7 @@ public final class PromiseTest {
         check.due("a line that ends at the limit", false, y.isOverfull(0));
         y.setWidth(32);
         check.due("a line that ends beyond the limit", true, y.isOverfull(0));
+        check.due("overfullCount of the first line", 1, y.overfullCount());
         check.due("overfullCount of a new book", 0, new ContentsSetter().overfullCount());
     }
 
@@ -450,6 +462,9 @@ public final class PromiseTest {
         check.dueThrow("collides(-1)", INDEX, () -> x.collides(-1));
         String pair = "section 1 lines 7 a;section 1 lines 22 b;section 1 lines 0 c;";
         check.due("3 over 8", true, Driver.loaded("book width 60 lines 40 page 5;main;" + pair).collides(1));
+        ContentsSetter w = Driver.loaded("book width 60 lines 40 page 5;main;" + pair);
+        w.remove(2);
+        check.due("no line behind", false, w.collides(1));
         ContentsSetter y = Driver.loaded("book width 60 lines 2 page 5;main;" + pair);
         check.due("neighbours on two pages", false, y.collides(1));
         check.due("collisions on two pages", 0, y.collisions());
@@ -489,8 +504,14 @@ public final class PromiseTest {
             check.due("buffer is empty", 20, x.append(0, 0, 0, 0, 0));
             x.truncate(0);
         }
-        for (String none : new String[] {"", "c", " a", "a ", "a b", "A", "abcdefghijklmn", "1", "a\n"}) {
+        for (String none : new String[] {"", "c", " a", "a ", "a b", "A", "abcdefghijklmn", "1", "a\n", "a`", "a{"}) {
             check.due("findWord <" + none + ">", ContentsSetter.NONE, Driver.find(x, none));
+        }
+        ContentsSetter y = Driver.loaded(START + "section 1 lines 0 aaaaaaaaaaac aaaaaaaaaaab aaaaaaaaaaa b;"
+                + "section 1 lines 0 aaaaaaaaaaac;section 1 lines 0 aaaaaaaaaaab;section 1 lines 0 b;");
+        int[] longSets = {1, 5, 3, 9};
+        for (int i = 0; i < longSets.length; i++) {
+            check.due("wordSections(" + i + ") of long words", longSets[i], y.wordSections(i));
         }
         x.remove(0);
         check.due("wordCount after remove", 4, x.wordCount());
@@ -525,6 +546,8 @@ public final class PromiseTest {
         check.dueThrow("no section", INDEX, () -> x.setLevel(5, 9));
         check.due("undoable", 2, x.undoCount());
         check.due("level as before", 3, x.setLevel(3, 3));
+        check.due("level 2 before a 3", 2, x.setLevel(2, 2));
+        x.undo();
         check.due("undoable", 3, x.undoCount());
         check.due("to a chapter", 3, x.setLevel(3, 1));
         check.due("chapter's page", 2, x.page(3));
@@ -658,6 +681,9 @@ public final class PromiseTest {
         check.due("a line changed", 1, x.changedLines());
         x.setLength(3, 3);
         check.due("changed back", 0, x.toRead());
+        Driver.setTitle(x, 0, "qreface");
+        check.due("another first letter", 1, x.toRead());
+        check.due("another first letter: lines", 1, x.changedLines());
         Driver.setTitle(x, 0, "preface");
         check.due("the same title", 0, x.toRead());
         Driver.insert(x, 1, 1, 0, "preface");
@@ -703,6 +729,12 @@ public final class PromiseTest {
         check.due("beyond 500", 11, x.slack(3));
         ContentsSetter y = Driver.loaded("book width 40 lines 10 page 99;section 1 lines 0 a;section 1 lines 0 b;");
         check.due("96 lines are left", 96, y.slack(0));
+        y.setLength(0, 96);
+        check.due("no line is left", 0, y.slack(0));
+        y.setLength(0, 97);
+        check.due("98 lines are left", 98, y.slack(0));
+        y.setLength(0, 95);
+        check.due("a line is left", 1, y.slack(0));
     }
 
     private static void pagesIf() {
@@ -735,6 +767,11 @@ public final class PromiseTest {
         check.due("bestWidth of no sections", 20, new ContentsSetter().bestWidth());
         check.due("bestWidth without overfull lines", 20, x.bestWidth());
         check.due("width is kept", 20, y.setting(0));
+        // The first title is 117 units wide, the column 2: only with 120 units it stands in one line.
+        ContentsSetter z = Driver.loaded("book width 20 lines 2 page 20;style indent 2 hang 3 gap 1 dots 0 grid 3;"
+                + "section 1 lines 0 mmmmmmmmmmmm mmmmmmmmmmmm mmmmmmmmmmmm iiiiii;section 2 lines 0 a;");
+        check.due("greatest leastWidth", 120, z.leastWidth(1));
+        check.due("greatest bestWidth", 120, z.bestWidth());
         check.due("not undone", 1, y.undoCount());
     }
 
@@ -817,6 +854,10 @@ public final class PromiseTest {
         check.due("a new text", 20, x.writeLine(0));
         check.dueThrow("the old text is gone", INDEX, () -> x.outputByte(20));
         check.due("table of no lines", 0, new ContentsSetter().writeTable());
+        ContentsSetter z = Driver.loaded("book width 60 lines 40 page 5;main;" + many(11, "section 1 lines 1 a;"));
+        check.due("label and number of two figures", "10 a ................ 10\n", Driver.line(z, 9));
+        z.setLength(0, 447);
+        check.due("number of three figures", "11 a ................ 100\n", Driver.line(z, 10));
         // The longest lines that can be: none of their bytes is lost.
         ContentsSetter y = Driver.loaded("book width 20 lines 2 page 5;style indent 9 hang 9 gap 0 dots 9 grid 1;"
                 + "section 1 lines 0 a;section 2 lines 0 a;section 3 lines 0 a;section 4 lines 0 a;");
