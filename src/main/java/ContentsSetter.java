@@ -498,8 +498,8 @@ public final class ContentsSetter {
     public int bestWidth() {
         startTrial();
         int best = LEAST_WIDTH;
-        int fewestOverfull = Integer.MAX_VALUE;
-        int fewestLines = Integer.MAX_VALUE;
+        int fewestOverfull = ALL_WORDS + 1;
+        int fewestLines = ALL_WORDS + 1;
         for (int width = LEAST_WIDTH; width <= MOST_WIDTH; width++) {
             trial.settings.put(WIDTH, width);
             trialLayout.lay(trial);

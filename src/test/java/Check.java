@@ -1,5 +1,12 @@
+import java.util.NoSuchElementException;
+
 /** Counts answers that are as due and tells those that are not. */
 final class Check {
+    static final Class<IndexOutOfBoundsException> INDEX = IndexOutOfBoundsException.class;
+    static final Class<IllegalArgumentException> ARGUMENT = IllegalArgumentException.class;
+    static final Class<IllegalStateException> STATE = IllegalStateException.class;
+    static final Class<NoSuchElementException> ELEMENT = NoSuchElementException.class;
+
     /** A call whose exception is looked at. */
     interface Call {
         void run();

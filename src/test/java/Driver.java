@@ -1,6 +1,6 @@
 import java.nio.charset.StandardCharsets;
 
-/** Brings texts into a ContentsSetter and out of it. */
+/** Brings texts into a ContentsSetter and out of it, with as few calls as can be: an object has 512. */
 final class Driver {
     private Driver() {
     }
@@ -9,6 +9,7 @@ final class Driver {
     static void feed(ContentsSetter x, String text) {
         byte[] bytes = text.getBytes(StandardCharsets.ISO_8859_1);
         int[] fours = new int[5];
+        int length = 0;
         for (int i = 0; i < bytes.length; i += 20) {
             for (int j = 0; j < 5; j++) {
                 fours[j] = 0;
@@ -17,8 +18,10 @@ final class Driver {
                     fours[j] = fours[j] << 8 | (at < bytes.length ? bytes[at] & 255 : 0);
                 }
             }
-            int length = x.append(fours[0], fours[1], fours[2], fours[3], fours[4]);
-            x.truncate(length - 20 + Math.min(20, bytes.length - i));
+            length = x.append(fours[0], fours[1], fours[2], fours[3], fours[4]);
+        }
+        if (bytes.length % 20 != 0) {
+            x.truncate(length - 20 + bytes.length % 20);
         }
     }
 

@@ -3,20 +3,25 @@ import java.util.Random;
 
 /** Runs of calls, always the same ones, whose answers are compared with those of Model. */
 public final class ModelTest {
-    private static final int RUNS = 200;
-    private static final int CALLS = 120;
+    private static final int RUNS = 2000;
+
+    // The document promises nothing of an object after its 512th call. A step takes at most 130.
+    private static final int MOST_CALLS = 512;
+    private static final int MOST_CALLS_OF_A_STEP = 130;
 
     private static final Check check = new Check();
     private static Random random;
     private static ContentsSetter x;
     private static Model m;
     private static int run;
+    private static int calls;
     private static int unsettled = 0;
     private static int collisions = 0;
     private static int overfull = 0;
     private static int thrown = 0;
     private static int loaded = 0;
     private static int refused = 0;
+    private static int mostCalls = 0;
 
     /** A call of the one or the other, an int for every answer. */
     private interface Call {
@@ -33,6 +38,7 @@ public final class ModelTest {
     }
 
     private static void same(String what, Call program, Call model) {
+        calls++;
         String want = answer(model);
         if (want.startsWith("java")) {
             thrown++;
@@ -136,9 +142,8 @@ public final class ModelTest {
                 f[j / 4] = f[j / 4] << 8 | sign;
             }
             same("append", () -> x.append(f[0], f[1], f[2], f[3], f[4]), () -> m.append(f[0], f[1], f[2], f[3], f[4]));
-            int rest = Math.max(0, 20 - (text.length() - i));
-            truncate(Math.max(0, m.input.length() - rest));
         }
+        truncate(Math.max(0, m.input.length() - Math.floorMod(-text.length(), 20)));
     }
 
     private static void truncate(int length) {
@@ -228,24 +233,30 @@ public final class ModelTest {
         }
     }
 
-    private static void lookWhole() {
+    private static void lookAtCounts() {
         for (int i = -1; i <= 8; i++) {
             int what = i;
             same("count(" + i + ")", () -> x.count(what), () -> m.count(what));
+        }
+        same("rounds()", () -> x.rounds(), () -> m.rounds());
+        same("toRead()", () -> x.toRead(), () -> m.toRead());
+        same("changedLines()", () -> x.changedLines(), () -> m.changedLines());
+        same("undoCount()", () -> x.undoCount(), () -> m.undoCount());
+        unsettled += m.rounds() == 8 ? 1 : 0;
+    }
+
+    private static void lookWhole() {
+        for (int i = -1; i <= 8; i++) {
+            int what = i;
             same("setting(" + i + ")", () -> x.setting(what), () -> m.setting(what));
             same("wordSections(" + i + ")", () -> x.wordSections(what), () -> m.wordSections(what));
             same("crowded(" + i + ")", () -> x.crowded(what), () -> m.crowded(what));
             same("longest(" + i + ")", () -> x.longest(what), () -> m.longest(what));
         }
         same("isRight()", () -> x.isRight() ? 1 : 0, () -> m.book.right ? 1 : 0);
-        same("rounds()", () -> x.rounds(), () -> m.rounds());
         same("overfullCount()", () -> x.overfullCount(), () -> m.overfullCount());
         same("collisions()", () -> x.collisions(), () -> m.collisions());
         same("wordCount()", () -> x.wordCount(), () -> m.wordCount());
-        same("toRead()", () -> x.toRead(), () -> m.toRead());
-        same("changedLines()", () -> x.changedLines(), () -> m.changedLines());
-        same("undoCount()", () -> x.undoCount(), () -> m.undoCount());
-        unsettled += m.rounds() == 8 ? 1 : 0;
         collisions += m.collisions();
         overfull += m.overfullCount();
     }
@@ -286,9 +297,11 @@ public final class ModelTest {
         lookOutput();
     }
 
+    /** Some bytes in a row, those at both ends more often than others. */
     private static void lookOutput() {
         int n = m.output.length();
-        for (int i = -1; i <= n; i++) {
+        int first = below(n + 20) - 10;
+        for (int i = Math.max(first, -1); i <= Math.min(first + 30, n); i++) {
             int at = i;
             same("outputByte(" + i + ")", () -> x.outputByte(at), () -> m.outputByte(at));
         }
@@ -312,14 +325,17 @@ public final class ModelTest {
         same("findWord() of " + word, () -> x.findWord(), () -> m.findWord());
     }
 
-    private static void call() {
+    private static void step() {
         int kind = below(100);
         if (kind < 4) {
             String text = bookText();
             load(often(50) ? spoilt(text) : text);
         } else if (kind < 55) {
             edit();
-            lookWhole();
+            lookAtCounts();
+            if (often(30)) {
+                lookWhole();
+            }
         } else if (kind < 70) {
             lookSection();
         } else if (kind < 85) {
@@ -343,13 +359,16 @@ public final class ModelTest {
             random = new Random(7000 + run);
             x = new ContentsSetter();
             m = new Model();
+            calls = 0;
             if (often(85)) {
                 load(bookText());
             }
-            for (int i = 0; i < CALLS; i++) {
-                call();
+            while (calls <= MOST_CALLS - MOST_CALLS_OF_A_STEP) {
+                step();
             }
+            mostCalls = Math.max(mostCalls, calls);
         }
+        check.due("no run has more than 512 calls", true, mostCalls <= MOST_CALLS);
         seenEnough("tables that do not settle", unsettled);
         seenEnough("collisions", collisions);
         seenEnough("overfull lines", overfull);
@@ -357,7 +376,8 @@ public final class ModelTest {
         seenEnough("texts", loaded);
         seenEnough("texts with errors", refused);
         System.out.println(unsettled + " unsettled, " + collisions + " collisions, " + overfull + " overfull, "
-                + thrown + " thrown, " + loaded + " loaded, " + refused + " refused");
+                + thrown + " thrown, " + loaded + " loaded, " + refused + " refused, at most " + mostCalls
+                + " calls a run");
         check.end();
     }
 }

@@ -2,10 +2,10 @@ import java.util.NoSuchElementException;
 
 /** The promises one by one, with answers worked out by hand from the document. */
 public final class PromiseTest {
-    private static final Class<IndexOutOfBoundsException> INDEX = IndexOutOfBoundsException.class;
-    private static final Class<IllegalArgumentException> ARGUMENT = IllegalArgumentException.class;
-    private static final Class<IllegalStateException> STATE = IllegalStateException.class;
-    private static final Class<NoSuchElementException> ELEMENT = NoSuchElementException.class;
+    private static final Class<IndexOutOfBoundsException> INDEX = Check.INDEX;
+    private static final Class<IllegalArgumentException> ARGUMENT = Check.ARGUMENT;
+    private static final Class<IllegalStateException> STATE = Check.STATE;
+    private static final Class<NoSuchElementException> ELEMENT = Check.ELEMENT;
 
     private static final String START = "book width 40 lines 10 page 20;";
     private static final String BASE = START + "style indent 2 hang 3 gap 1 dots 2 grid 3;"
@@ -875,8 +875,9 @@ public final class PromiseTest {
         String[] numbers = {"ii", "iii", "iv", "v", "vi", "vii", "viii", "ix", "x", "xi", "xii", "xiii", "xiv", "xv",
             "xvi", "xvii", "xviii", "xix", "xx", "xxi", "xxii", "xxiii", "xxiv", "xxv"};
         int[] widths = {2, 3, 3, 2, 3, 4, 5, 3, 2, 3, 4, 5, 5, 4, 5, 6, 7, 5, 4, 5, 6, 7, 7, 6};
-        ContentsSetter x = Driver.loaded("book width 60 lines 40 page 50;" + many(24, "section 1 lines 40 a;"));
+        String book = "book width 60 lines 40 page 50;" + many(24, "section 1 lines 40 a;");
         for (int i = 0; i < numbers.length; i++) {
+            ContentsSetter x = Driver.loaded(book);
             String line = Driver.line(x, i);
             check.due("number " + i, numbers[i] + "\n", line.substring(line.lastIndexOf(' ') + 1));
             check.due("numberWidth " + i, widths[i], x.numberWidth(i));
