@@ -549,6 +549,17 @@ public final class EditEdgesTest {
         check.due("nor its position", ContentsSetter.NONE, y.errorPosition());
     }
 
+    /** "An object is used for at most 512 calls": the last of them is as good as the first. */
+    private static void mostCalls() {
+        ContentsSetter x = new ContentsSetter();
+        check.due("the first call", 60, x.setWidth(20));
+        for (int i = 2; i <= 510; i++) {
+            check.due("call " + i, 20 + (i - 2) % 100, x.setWidth(20 + (i - 1) % 100));
+        }
+        check.due("call 511", 5, x.undo());
+        check.due("call 512", 20 + 508 % 100, x.setting(0));
+    }
+
     public static void main(String[] args) {
         orderOfWords();
         wholeContent();
@@ -566,6 +577,7 @@ public final class EditEdgesTest {
         whatCannotBeUndone();
         theLastSix();
         whatStays();
+        mostCalls();
         check.end();
     }
 }
