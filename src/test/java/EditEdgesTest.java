@@ -382,6 +382,51 @@ public final class EditEdgesTest {
         check.due("nothing is left: into the front part", 1, y.count(1));
     }
 
+    /** All that follows from the sections that are there, beside what Seen tells. */
+    private static String whatFollows(ContentsSetter x) {
+        StringBuilder text = new StringBuilder("overfull " + x.overfullCount() + " collisions " + x.collisions());
+        for (int unit = 0; unit < 40; unit++) {
+            text.append(' ').append(x.dotsAt(unit));
+        }
+        for (int i = 0; i <= x.count(0); i++) {
+            text.append("\nplaces ").append(x.crowded(i)).append(' ').append(x.longest(i));
+        }
+        for (int i = 0; i < x.count(0); i++) {
+            text.append("\nsection ").append(x.slack(i)).append(' ').append(x.pagesIf(i, 40));
+            text.append(' ').append(x.section(i, 4)).append(' ').append(x.section(i, 5)).append(' ');
+            text.append(x.section(i, 6)).append(' ').append(x.numberWidth(i)).append(' ').append(x.bookPage(i));
+        }
+        for (int i = 0; i < x.count(2); i++) {
+            text.append("\nline ").append(x.collides(i)).append(' ').append(x.isOverfull(i));
+        }
+        return text.append("\nwidths ").append(x.leastWidth(1)).append(' ').append(x.bestWidth()).toString();
+    }
+
+    /** A book without its last sections is as one that never had them. */
+    private static void removedLeavesNothing() {
+        String kept = START + "section 1 lines 5 preface;main;section 1 lines 10 of time;";
+        String[] ends = {"section 2 lines 4 rest;", "section 1 lines 0 end;", "section 2 lines 40 mmmmmmmmmmmm mmmmmmmmmmmm;",
+            "section 2 lines 1 mmmmmmmmmmmm a;section 3 lines 1 a;section 3 lines 1 b;"};
+        for (String end : ends) {
+            ContentsSetter x = Driver.loaded(kept + end);
+            // A book that would be has the third section elsewhere; that must be gone as well.
+            x.pagesIf(1, 400);
+            x.remove(2);
+            ContentsSetter never = Driver.loaded(kept);
+            check.due("the book without " + end, Seen.book(never), Seen.book(x));
+            check.due("what follows without " + end, whatFollows(never), whatFollows(x));
+            Driver.load(x, kept + end);
+            Driver.load(x, kept);
+            check.due("what follows from a text without " + end, whatFollows(never), whatFollows(x));
+        }
+        ContentsSetter x = Driver.loaded(kept + ends[0]);
+        x.remove(0);
+        x.remove(0);
+        ContentsSetter never = Driver.loaded(START);
+        check.due("the book without any", Seen.book(never), Seen.book(x));
+        check.due("what follows without any", whatFollows(never), whatFollows(x));
+    }
+
     // ---- Promises 37 to 39: setWidth, setGrid and setRight ----
 
     private static void settings() {
@@ -572,6 +617,7 @@ public final class EditEdgesTest {
         insertsOfAllKinds();
         theOthersMove();
         removes();
+        removedLeavesNothing();
         settings();
         undoOfEach();
         whatCannotBeUndone();
