@@ -198,6 +198,31 @@ public final class ProofEdgesTest {
         check.due("proofs of more than one", 2, y.proof());
     }
 
+    /**
+     * The setting of an entry about as long as one can be, of which only the number changes, at its very end.
+     * The front part goes on to page clxxxviii, 14 units wide: so no line has room for two tokens. The
+     * entry's own number takes 2 units, which leaves it the dots from 72 to 117.
+     */
+    private static void endOfALongSetting() {
+        String word = "mmmmmmmmmmmm";
+        ContentsSetter x = Driver.loaded("book width 120 lines 60 page 5;style indent 9 hang 9 gap 0 dots 0 grid 1;"
+                + "section 1 lines 500 a;section 1 lines 422 a;section 1 lines 0 a;"
+                + "main;section 1 lines 0 a;section 2 lines 0 a;section 3 lines 0 a;"
+                + "section 4 lines 0" + (" " + word).repeat(8) + ";");
+        check.due("last page of the front part", 188, x.page(2));
+        check.due("width of its number", 14, x.count(6));
+        check.due("lines of the long entry", 8, x.lineCount(6));
+        String last = " ".repeat(36) + word + " " + ".".repeat(46) + " ";
+        check.due("its first line", " ".repeat(27) + "1.1.1.1 " + word + "\n", Driver.line(x, 6));
+        check.due("its last line", last + "2\n", Driver.line(x, 13));
+        check.due("proof of the long entry", 7, x.proof());
+        x.setLength(5, 3);
+        check.due("its last line on the next page", last + "3\n", Driver.line(x, 13));
+        mustRead("the number of a long entry", x, 1 << 6, 1);
+        x.setLength(5, 2);
+        mustRead("the number of a long entry as it was", x, 0, 0);
+    }
+
     // ---- Promise 43: slack, "0 to 99" ----
 
     private static String pagesWith(String text, int section, int more) {
@@ -418,6 +443,7 @@ public final class ProofEdgesTest {
         addedAndRemoved();
         proofsInARow();
         settingsAreTexts();
+        endOfALongSetting();
         slacks();
         pagesIf();
         widths();

@@ -441,6 +441,28 @@ public final class TableEdgesTest {
         check.due("117 dots", "i " + ".".repeat(117) + " ii\n", Driver.line(y, 0));
     }
 
+    /** About the longest table that there can be comes whole. */
+    private static void longestTable() {
+        ContentsSetter x = Driver.loaded("book width 108 lines 60 page 99;" + style(9, 9, 0, 0, 1) + "main;"
+                + section(1, "a") + section(2, "a") + section(3, "a") + section(4, "a").repeat(21));
+        for (int i = 3; i < 24; i++) {
+            Driver.setTitle(x, i, "mmmmmmmmmmmm ".repeat(8));
+        }
+        // All numbers are 1, so the limit is 107; the first line of 1.1.1.1 would end at 108 with two words.
+        check.due("lines of the longest table", 3 + 21 * 8, x.count(2));
+        // The dots go on to 106: from 4 behind "1 a", from 15 behind "1.1 a", from 26 behind "1.1.1 a",
+        // from 72 behind the last words. 12 of the 21 long entries have two figures at their label's end.
+        int top = (3 + 103) + (9 + 5 + 92) + (18 + 7 + 81) + 3 * 4;
+        int entry = (27 + 7 + 1 + 13) + 6 * (36 + 13) + (36 + 12 + 35 + 4);
+        int length = top + 21 * entry + 12;
+        check.due("length of the longest table", length, x.writeTable());
+        String last = " ".repeat(36) + "mmmmmmmmmmmm " + ".".repeat(35) + " 1\n";
+        for (int i = 0; i < last.length(); i++) {
+            check.due("its last line at " + i, last.charAt(i), x.outputByte(length - last.length() + i));
+        }
+        check.dueThrow("behind the longest table", Check.INDEX, () -> x.outputByte(length));
+    }
+
     public static void main(String[] args) {
         starts();
         tokensIntoLines();
@@ -456,6 +478,7 @@ public final class TableEdgesTest {
         linesOfNeighbours();
         written();
         longestLines();
+        longestTable();
         check.end();
     }
 }
